@@ -102,6 +102,8 @@ public final class PromisesTest {
         due("3: as it was, undone", x.told(13), 1);
         due("3: as it was, text", x.told(2), 0);
         Check.feedAll(x, "w9;p0 8 5 2 9;");
+        x.hour(2);
+        x.offer(0, 2);
         due("3: new edge", x.edge(), 1);
         int[] want = {1, 1, 0, 0, 0, 0, 9, 0, NONE, 9, 8, 0, 0, 0};
         for (int k = 0; k < want.length; k++) due("3: told(" + k + ")", x.told(k), want[k]);
@@ -112,6 +114,12 @@ public final class PromisesTest {
         due("3: words untold", x.word(0), 3);
         due("3: images gone", x.goBack(0), NOT);
         due("3: seed stays", x.seed(0), 77);
+        Check.feedAll(x, "w1;t1 2 3;f4;");
+        due("3: words, fruit told", x.edge(), 0);
+        Check.feedAll(x, "w1;t4 5 6;f7;");
+        due("3: words, fruit told anew", x.edge(), 0);
+        due("3: words told anew", x.word(0), 4);
+        due("3: fruit told anew", x.told(6), 7);
         Check.feedAll(x, "  ");
         due("3: blanks", x.edge(), 0);
         due("3: blanks, no weights", x.told(0), 0);
@@ -154,6 +162,9 @@ public final class PromisesTest {
         fault("w1;t1 2 3;t", -13, 10);
         fault("w1;t1 2 10;", -12, 8);
         fault("w1;t1 2;", -11, 7);
+        fault("w1;t10 2 3;", -12, 4);
+        fault("w1;t1 10 3;", -12, 6);
+        fault("w1;t0 0 0;f0;", 0, NONE);
         fault("w1;f1;f1;", -13, 6);
         fault("w1;f99;", 0, NONE);
         fault("w1;f100;", -12, 4);
@@ -249,6 +260,7 @@ public final class PromisesTest {
         due("8: no weights", new SkyTurns().hour(1), NOT);
         due("8: outside first", new SkyTurns().hour(0), OUTSIDE);
         due("8: nobody", with("w1;").hour(1), NOT);
+        due("8: 99 hours", with("w1;p0 8 5 2 9;").hour(99), 99 - 16);
         SkyTurns even = with("w8;p0 8 5 2 9;");
         due("8: as much force as weight", even.hour(1), 0);
         due("8: tired by 1, half of it is 0", even.hour(1), 0);
@@ -397,6 +409,9 @@ public final class PromisesTest {
         due("13: an offer", x.drift(1), 20);
         due("13: by which it fell", x.person(0, 7), 2);
         due("13: the seed", x.seed(0), 1109335178);
+        SkyTurns long99 = with("w9;p0 5 5 0 9;");
+        long99.drift(99);
+        due("13: 99 hours", long99.told(3), 99);
         due("13: nobody", with("w1;").drift(1), NOT);
         due("13: outside first", new SkyTurns().drift(0), OUTSIDE);
     }
@@ -458,6 +473,12 @@ public final class PromisesTest {
         due("15: none", weak.shifts(2, 7, NONE), NONE);
         due("15: none", weak.shifts(2, 7, 0), NONE);
         due("15: just so", weak.shifts(2, 8, NONE), 2);
+        SkyTurns alike = with("w0;p0 5 5 0 9;p0 5 5 0 9;p0 5 5 0 9;");
+        due("15: the first of like ones, of four", row(alike, 4, 0), 11);
+        SkyTurns turns = with("w5;p0 5 5 0 9;p0 4 5 0 9;");
+        due("15: of four, without breaks", row(turns, 4, 99), 11);
+        due("15: of three by one alone", row(turns, 3, 1), 1);
+        due("15: of five by one alone", with("w0;p0 5 5 0 9;").shifts(5, 0, NONE), 5);
         SkyTurns two = with("w5;p0 5 5 0 9;p0 5 5 0 9;");
         two.join(1);
         due("15: whoever holds now", two.shifts(2, 0, NONE), 1);
@@ -476,6 +497,7 @@ public final class PromisesTest {
         due("16: it need not", x.sinks(1, 2), NONE);
         due("16: just too deep", x.sinks(2, 4), 1);
         due("16: just deep enough", x.sinks(2, 5), NONE);
+        due("16: just too deep again", x.sinks(2, 4), 1);
         due("16: at once", with("w9;p0 5 5 0 9;").sinks(5, 3), 0);
         due("16: outside", x.sinks(0, 0), OUTSIDE);
         due("16: outside", x.sinks(6, 0), OUTSIDE);
@@ -507,6 +529,11 @@ public final class PromisesTest {
         due("17: beside", x.chain(2, NONE), 0);
         due("17: beside, its son's son", x.chain(4, NONE), 2);
         due("17: nothing changed", x.told(8), 2);
+        SkyTurns first = with("w5;p0 5 5 2 9;p0 5 5 9 0;p0 5 5 2 9;");
+        first.offer(2, 0);
+        due("17: by the holder at first", first.chain(1, NONE), 2);
+        due("17: by the holder at first", first.chain(1, 0) * 10 + first.chain(1, 1), 1);
+        due("17: by the first word", with("w5;t9 0 0;p0 5 5 2 9;p0 5 5 2 9;").chain(1, 0), 1);
         SkyTurns once = with("w5;p0 5 5 0 9;p0 5 5 6 9;");
         once.offer(1, 2);
         once.offer(0, 0);
@@ -619,6 +646,8 @@ public final class PromisesTest {
         due("23: outside", x.pillar(31, 1), OUTSIDE);
         due("23: outside", x.pillar(1, 0), OUTSIDE);
         due("23: outside", x.pillar(1, 41), OUTSIDE);
+        // both leave no weight at all
+        due("23: 40 hours", x.pillar(30, 40), x.pillar(29, 40));
         due("23: nobody", with("w1;").pillar(1, 1), NOT);
         due("23: outside first", new SkyTurns().pillar(0, 1), OUTSIDE);
         SkyTurns two = with("w9;p0 5 5 0 9;p0 3 5 0 9;");
@@ -645,6 +674,10 @@ public final class PromisesTest {
         due("25: who were weak", x.who(NONE), 2);
         x.see(1);
         due("25: then the other", x.who(NONE), 2);
+        SkyTurns one = with("w5;p0 4 5 0 9;p0 5 5 0 9;p0 4 5 0 9;");
+        one.see(0);
+        due("25: one row", one.who(NONE), 1);
+        due("25: the one row", one.who(0), 1);
         due("25: the first row", x.who(0) * 10 + x.who(1), 1);
         due("25: behind it", x.who(2), NONE);
         due("25: before it", x.who(-2), NONE);

@@ -670,21 +670,13 @@ public final class SkyTurns {
 
         int forceOf(int p) {
             if (!told.isPerson(p)) return 0;
-            switch (told.kind[p]) {
-                case STATUE: return unbroken[p] > 0 ? 0 : told.strength[p];
-                case SLEEPY: return sleepyForce(p);
-                case PAID: return fruitLeft > 0 ? sleepyForce(p) + PAY_FORCE : 0;
-                default: return plainForce(p);
-            }
-        }
-
-        private int plainForce(int p) {
-            return Math.max(0, told.strength[p] - tired[p] / 2);
-        }
-
-        private int sleepyForce(int p) {
-            int force = plainForce(p);
-            return clock % 3 == 2 ? force / 2 : force;
+            int kind = told.kind[p];
+            if (kind == STATUE) return unbroken[p] > 0 ? 0 : told.strength[p];
+            if (kind == PAID && fruitLeft < 1) return 0;
+            int force = Math.max(0, told.strength[p] - tired[p] / 2);
+            boolean sleeps = (kind == SLEEPY || kind == PAID) && clock % 3 == 2;
+            if (sleeps) force = force / 2;
+            return kind == PAID ? force + PAY_FORCE : force;
         }
 
         int forceHeld() {
@@ -772,14 +764,14 @@ public final class SkyTurns {
 
         abstract void endRow();
 
-        final void tryRows(Sky now, int hoursTried) {
+        final void start(Sky now, int hoursTried) {
             hours = Math.min(LONGEST_ROW, hoursTried);
             for (int p = 0; p < MOST_PEOPLE; p++) hoursOf[p] = 0;
             levels[0].copyFrom(now);
-            goOn(0);
         }
 
-        private void goOn(int level) {
+        /** Tries all that the row's hours from this one on may be; started, it is called for hour 0. */
+        final void goOn(int level) {
             if (level >= hours) {
                 endRow();
                 return;
@@ -788,17 +780,15 @@ public final class SkyTurns {
                 if (!fits(level, p, levels[level].lowBehind(p, NONE, 0))) continue;
                 row[level] = p;
                 hoursOf[p]++;
-                if (level + 1 < hours) standBehind(level, p);
+                if (level + 1 < hours) {
+                    Sky behind = levels[level + 1];
+                    behind.copyFrom(levels[level]);
+                    behind.handTo(p);
+                    behind.passHour(0);
+                }
                 goOn(level + 1);
                 hoursOf[p]--;
             }
-        }
-
-        private void standBehind(int level, int p) {
-            Sky behind = levels[level + 1];
-            behind.copyFrom(levels[level]);
-            behind.handTo(p);
-            behind.passHour(0);
         }
     }
 
@@ -817,7 +807,8 @@ public final class SkyTurns {
             limit = lowAllowed;
             best = LONGEST_ROW + 1;
             deepest = 0;
-            tryRows(now, hoursTried);
+            start(now, hoursTried);
+            goOn(0);
         }
 
         // A row that gives somebody as many hours as the best one does is no better, and comes later.
@@ -880,7 +871,8 @@ public final class SkyTurns {
         void find(Sky now) {
             count = 0;
             common = 0;
-            tryRows(now, seenCount);
+            start(now, seenCount);
+            goOn(0);
         }
 
         boolean fits(int level, int p, int low) {
