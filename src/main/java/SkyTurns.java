@@ -695,7 +695,11 @@ public final class SkyTurns {
         }
 
         void passHour(int relief) {
-            low = lowBehind(holder, beside, relief);
+            endHour(lowBehind(holder, beside, relief));
+        }
+
+        void endHour(int lowThen) {
+            low = lowThen;
             harm = Math.min(MOST_HARM, harm + low);
             for (int p = 0; p < told.people; p++) {
                 if (isHolding(p)) bear(p);
@@ -764,31 +768,34 @@ public final class SkyTurns {
 
         abstract void endRow();
 
-        final void start(Sky now, int hoursTried) {
+        final void tryRows(Sky now, int hoursTried) {
             hours = Math.min(LONGEST_ROW, hoursTried);
             for (int p = 0; p < MOST_PEOPLE; p++) hoursOf[p] = 0;
             levels[0].copyFrom(now);
+            goOn(0);
         }
 
-        /** Tries all that the row's hours from this one on may be; started, it is called for hour 0. */
-        final void goOn(int level) {
+        private void goOn(int level) {
             if (level >= hours) {
                 endRow();
                 return;
             }
             for (int p = 0; p < told.people; p++) {
-                if (!fits(level, p, levels[level].lowBehind(p, NONE, 0))) continue;
+                int low = levels[level].lowBehind(p, NONE, 0);
+                if (!fits(level, p, low)) continue;
                 row[level] = p;
                 hoursOf[p]++;
-                if (level + 1 < hours) {
-                    Sky behind = levels[level + 1];
-                    behind.copyFrom(levels[level]);
-                    behind.handTo(p);
-                    behind.passHour(0);
-                }
+                if (level + 1 < hours) standBehind(level, p, low);
                 goOn(level + 1);
                 hoursOf[p]--;
             }
+        }
+
+        private void standBehind(int level, int p, int low) {
+            Sky behind = levels[level + 1];
+            behind.copyFrom(levels[level]);
+            behind.handTo(p);
+            behind.endHour(low);
         }
     }
 
@@ -807,8 +814,7 @@ public final class SkyTurns {
             limit = lowAllowed;
             best = LONGEST_ROW + 1;
             deepest = 0;
-            start(now, hoursTried);
-            goOn(0);
+            tryRows(now, hoursTried);
         }
 
         // A row that gives somebody as many hours as the best one does is no better, and comes later.
@@ -871,8 +877,7 @@ public final class SkyTurns {
         void find(Sky now) {
             count = 0;
             common = 0;
-            start(now, seenCount);
-            goOn(0);
+            tryRows(now, seenCount);
         }
 
         boolean fits(int level, int p, int low) {
@@ -900,6 +905,8 @@ public final class SkyTurns {
     /** The shortest way, by offers and takings, till one holds. */
     private static final class Chain {
         final Edge told;
+        private final boolean[] falls = new boolean[MOST_PEOPLE];
+        private final boolean[] starts = new boolean[MOST_PEOPLE];
         private final int[] stepsLeft = new int[MOST_PEOPLE];
         private final int[] way = new int[MOST_PEOPLE];
         int length;
@@ -909,19 +916,19 @@ public final class SkyTurns {
         }
 
         void find(Sky now, int goal) {
-            length = NONE;
-            if (now.isHolding(goal)) {
-                length = 0;
-                return;
+            length = now.isHolding(goal) ? 0 : NONE;
+            if (length == 0) return;
+            for (int p = 0; p < told.people; p++) {
+                falls[p] = now.isTrickedBySome(p);
+                starts[p] = !now.isHolding(p) && (falls[p] || now.isFatherHolding(p));
             }
-            countSteps(now, goal);
-            int first = nextOf(now, NONE);
-            if (first == NONE) return;
-            length = stepsLeft[first] + 1;
-            int holder = first;
+            countSteps(goal);
+            int holder = nextOf(NONE);
+            if (holder == NONE) return;
+            length = stepsLeft[holder] + 1;
             for (int k = 0; k < length && k < MOST_PEOPLE && holder != NONE; k++) {
                 way[k] = holder;
-                holder = nextOf(now, holder);
+                holder = nextOf(holder);
             }
         }
 
@@ -930,36 +937,35 @@ public final class SkyTurns {
         }
 
         /** Steps from each one, holding alone, to the goal; NONE where no way leads there. */
-        private void countSteps(Sky now, int goal) {
+        private void countSteps(int goal) {
             for (int p = 0; p < MOST_PEOPLE; p++) stepsLeft[p] = p == goal ? 0 : NONE;
             for (int steps = 1; steps < told.people; steps++) {
                 for (int p = 0; p < told.people; p++) {
-                    if (stepsLeft[p] == NONE && leadsOn(now, p, steps - 1)) stepsLeft[p] = steps;
+                    if (stepsLeft[p] == NONE && leadsOn(p, steps - 1)) stepsLeft[p] = steps;
                 }
             }
         }
 
-        private boolean leadsOn(Sky now, int from, int steps) {
+        private boolean leadsOn(int from, int steps) {
             for (int p = 0; p < told.people; p++) {
-                if (stepsLeft[p] == steps && isStep(now, from, p)) return true;
+                if (stepsLeft[p] == steps && isStep(from, p)) return true;
             }
             return false;
         }
 
         /** The lesser one of those nearest to the goal who can take over; from NONE: from who holds now. */
-        private int nextOf(Sky now, int from) {
+        private int nextOf(int from) {
             int next = NONE;
             for (int p = 0; p < told.people; p++) {
-                if (stepsLeft[p] == NONE || !isStep(now, from, p)) continue;
+                if (stepsLeft[p] == NONE || !isStep(from, p)) continue;
                 if (next == NONE || stepsLeft[p] < stepsLeft[next]) next = p;
             }
             return next;
         }
 
-        private boolean isStep(Sky now, int from, int to) {
-            if (from == to) return false;
-            if (from != NONE) return told.isSon(to, from) || now.isTrickedBySome(to);
-            return !now.isHolding(to) && (now.isFatherHolding(to) || now.isTrickedBySome(to));
+        private boolean isStep(int from, int to) {
+            if (from == NONE) return starts[to];
+            return from != to && (falls[to] || told.isSon(to, from));
         }
     }
 
