@@ -231,6 +231,13 @@ public final class TextBoundsTest {
         Check.feedAll(x, "w1;");
         x.edge();
         due("untold again", x.word(0) * 100 + x.word(1) * 10 + x.word(2), 357);
+        Check.feedAll(x, "w1;t1 1 1;x");
+        due("told, then a fault", x.edge(), -11);
+        for (int k = 4; k <= 5; k++) {
+            Check.feedAll(x, "w1;t" + k + " 0 9;");
+            due("told in each text anew", x.edge(), 0);
+            due("told in each text anew", x.word(0) * 100 + x.word(1) * 10 + x.word(2), k * 100 + 9);
+        }
         faulty("w1;t1 2 3;t1 2 3;", AGAIN, 10);
         faulty("w1;t3 5 7; t", AGAIN, 11);
         faulty("w1;t0 0 0;f1;t99", AGAIN, 13);
@@ -254,6 +261,13 @@ public final class TextBoundsTest {
         Check.feedAll(x, "w1;");
         x.edge();
         due("untold again", x.told(6), 9);
+        Check.feedAll(x, "w1;f3;x");
+        due("told, then a fault", x.edge(), -11);
+        for (int k = 4; k <= 5; k++) {
+            Check.feedAll(x, "w1;f" + k + ";");
+            due("told in each text anew", x.edge(), 0);
+            due("told in each text anew", x.told(6), k);
+        }
         faulty("w1;f0;f0;", AGAIN, 6);
         faulty("w1;f9;t1 2 3;f100;", AGAIN, 13);
     }

@@ -16,7 +16,8 @@ public final class TriedBoundsTest {
         nothingChangesByTrying();
         chainLengths();
         chainPlaces();
-        chainFirstOfLikeOnes();
+        chainOneWayAlone();
+        chainBackToTheFirst();
         chainByOneWord();
         chainWithTwo();
         pairThereIsNone();
@@ -209,7 +210,8 @@ public final class TriedBoundsTest {
         due("behind the last of four", x.chain(5, 4), NONE);
     }
 
-    private static void chainFirstOfLikeOnes() {
+    /** One whom no word tricks is reached through its father alone: there are never two shortest ways. */
+    private static void chainOneWayAlone() {
         // 1, 2 and 3 fall to a word; 5 is a son of 3, 4 one of 2
         SkyTurns x = with("w0;p0 5 5 9 9;p0 5 5 0 9;p0 5 5 0 9;p0 5 5 0 9;p0 5 5 9 2;p0 5 5 9 3;");
         due("by 2", x.chain(4, NONE), 2);
@@ -221,6 +223,19 @@ public final class TriedBoundsTest {
         due("the longer way", two.chain(5, NONE), 3);
         due("the longer way", two.chain(5, 0) * 100 + two.chain(5, 1) * 10 + two.chain(5, 2), 245);
         due("the lesser way", two.chain(3, 0) * 10 + two.chain(3, 1), 13);
+    }
+
+    private static void chainBackToTheFirst() {
+        SkyTurns x = with("w0;p0 5 5 6 9;p0 5 5 6 9;p0 5 5 9 0;");
+        x.offer(1, 2);
+        due("to 0 again", x.chain(0, NONE), 1);
+        due("to 0 again", x.chain(0, 0), 0);
+        due("by 0 to its son", x.chain(2, NONE), 2);
+        due("by 0 to its son", x.chain(2, 0) * 10 + x.chain(2, 1), 2);
+        x.offer(0, 2);
+        due("a son of 0", x.chain(2, NONE), 1);
+        x.take(2);
+        due("0 has fallen to it", x.chain(0, NONE), NONE);
     }
 
     /** Each takes over by some word that is better than its wits and that it has not fallen to. */

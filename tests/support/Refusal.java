@@ -31,9 +31,9 @@ final class Refusal {
         return Check.with("w5,6;");
     }
 
-    /** Two hold, hours can be undone, an image is kept, something was seen and written, a text is half told. */
+    /** Two hold, hours can be undone, an image is kept, what was seen and written is so, a text is half told. */
     static SkyTurns full() {
-        SkyTurns x = Check.with("w6,9,4;p0 8 5 2 9;p1 6 4 4 0;p2 10 4 9 9;p3 9 5 6 1;p4 7 2 1 1;f4;");
+        SkyTurns x = Check.with("w9,20,14;p0 8 5 2 9;p1 6 4 4 0;p2 10 4 9 9;p3 9 5 6 1;p4 7 2 1 1;f4;");
         x.seed(77);
         x.hour(1);
         x.take(1);
@@ -45,9 +45,9 @@ final class Refusal {
         x.join(3);
         x.hour(1);
         x.seed(78);
-        x.see(3);
-        x.see(2);
-        x.write(4, 0, false);
+        x.see(33);
+        x.see(33);
+        x.write(4, 0, true);
         x.write(1, 1, true);
         Check.feedAll(x, "w7,8;p0 5 6 7");
         return x;
