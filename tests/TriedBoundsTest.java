@@ -66,6 +66,9 @@ public final class TriedBoundsTest {
         SkyTurns two = with("w0;p0 9 5 0 9;p0 9 5 0 9;");
         int[] rows = {10, 201, 3001, 40011, 500011};
         for (int n = 1; n <= 5; n++) due("the first row of " + n + " hours by two", row(two, n, 0), rows[n - 1]);
+        SkyTurns three = with("w0;" + "p0 9 5 0 9;".repeat(3));
+        due("the first row of four hours by three", row(three, 4, 0), 40011);
+        due("the first row of five hours by three", row(three, 5, 0), 500112);
         SkyTurns six = with("w0;" + "p0 9 5 0 9;".repeat(6));
         due("the first row by six", row(six, 5, 99), 501234);
         // 0 may not hold in the second hour, 1 in the first
@@ -194,6 +197,12 @@ public final class TriedBoundsTest {
         due("chain to a father", x.chain(0, NONE), NONE);
         due("chain to who holds", x.chain(1, NONE), 0);
         due("chain to the last", x.chain(5, NONE), 4);
+        SkyTurns easy = with("w0;p0 5 5 0 9;p0 5 5 0 9;p0 5 5 0 9;");
+        due("who holds, though it could take over again", easy.chain(0, NONE), 0);
+        due("who holds, no place", easy.chain(0, 0), NONE);
+        easy.join(2);
+        due("who holds beside, though it could take over again", easy.chain(2, NONE), 0);
+        due("who holds beside, no place", easy.chain(2, 0), NONE);
         SkyTurns alone = with("w0;p0 5 5 0 9;");
         due("one alone", alone.chain(0, NONE), 0);
         due("nobody else", alone.chain(1, NONE), UNKNOWN);
@@ -348,6 +357,10 @@ public final class TriedBoundsTest {
         due("all held as many", held(2, 2, 2, 2, 2, 2).payments(), 0);
         due("two", held(1, 0).payments(), 1);
         due("two of three", held(3, 1, 2).payments(), 1);
+        due("one for two", held(1, 0, 0).payments(), 2);
+        due("two for two", held(2, 2, 0, 0).payments(), 2);
+        due("three for one", held(2, 2, 2, 0).payments(), 3);
+        due("one for one of four", held(1, 1, 2, 0).payments(), 1);
         due("one for five", held(6, 0, 0, 0, 0, 0).payments(), 5);
         due("five for one", held(1, 1, 1, 1, 1, 0).payments(), 5);
         due("three pairs", held(3, 7, 2, 8, 4, 6).payments(), 3);
